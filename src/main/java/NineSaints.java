@@ -560,11 +560,6 @@ public final class NineSaints {
 
     /** Reads a text into a draft of a city, or finds its first fault. */
     private static final class Reader {
-        private static final int END = 0;
-        private static final int WORD = 1;
-        private static final int NUMBER = 2;
-        private static final int SIGN = 3;
-
         private static final int OWN_WIDTH = 8;
         // One text of words of like width: a table of texts would have to be made anew by each object.
         private static final String OWN = "corner  parish  lane    long    walls   saint   at      pace    loud    petals  balcony from    to      worth   but     rain    or      and     not     all     minute  sort    far     first   second  min     max     ";
@@ -592,14 +587,21 @@ public final class NineSaints {
         private static final int W_SECOND = 24;
         private static final int W_MIN = 25;
         private static final int W_MAX = 26;
+        // The kinds of all other tokens, behind those of own words.
+        private static final int WORD = 27;
+        private static final int NUMBER = 28;
+        private static final int SIGN = 29;
+        private static final int END = 30;
 
         final City city;
         final int[] text;
-        int length;
+        final int[] starts = new int[MOST_BYTES + 1];
+        final int[] stops = new int[MOST_BYTES + 1];
+        final int[] kinds = new int[MOST_BYTES + 1];
+        int next;
         int at;
         int after;
         int kind;
-        int own;
         boolean joined;
         int value;
         int told;
@@ -613,7 +615,8 @@ public final class NineSaints {
         }
 
         void open(int bytes) {
-            length = Math.min(bytes, text.length);
+            cut(Math.min(bytes, MOST_BYTES));
+            next = 0;
             after = 0;
             kind = SIGN;
             written = 0;
@@ -621,6 +624,67 @@ public final class NineSaints {
             faultPlace = NONE;
             city.empty();
             advance();
+        }
+
+        /** Cuts the text into tokens; behind them stands the end, at the text's length. */
+        private void cut(int length) {
+            int count = 0;
+            int place = 0;
+            while (place < length) {
+                int start = place;
+                int sign = text[place++];
+                if (sign == 10 || sign == 32) {
+                    continue;
+                }
+                int which = SIGN;
+                if (sign >= 'a' && sign <= 'z') {
+                    while (place < length && text[place] >= 'a' && text[place] <= 'z') {
+                        place++;
+                    }
+                    which = kindOfWord(start, place);
+                } else if (sign >= '0' && sign <= '9') {
+                    while (place < length && text[place] >= '0' && text[place] <= '9') {
+                        place++;
+                    }
+                    which = NUMBER;
+                }
+                starts[count] = start;
+                stops[count] = place;
+                kinds[count++] = which;
+            }
+            starts[count] = length;
+            stops[count] = length;
+            kinds[count] = END;
+        }
+
+        private int kindOfWord(int start, int stop) {
+            int size = stop - start;
+            for (int word = 0; word <= W_MAX && size < OWN_WIDTH; word++) {
+                int same = 0;
+                while (same < size && OWN.charAt(word * OWN_WIDTH + same) == text[start + same]) {
+                    same++;
+                }
+                if (same == size && OWN.charAt(word * OWN_WIDTH + same) == ' ') {
+                    return word;
+                }
+            }
+            return WORD;
+        }
+
+        /** To the next token; one that should have a blank ahead and has none is joined. */
+        private void advance() {
+            boolean needsBlank = kind <= NUMBER;
+            int before = after;
+            if (needsBlank) {
+                told++;
+            }
+            kind = kinds[next];
+            at = starts[next];
+            after = stops[next];
+            joined = needsBlank && at == before && kind <= NUMBER;
+            if (kind != END) {
+                next++;
+            }
         }
 
         boolean more() {
@@ -633,57 +697,9 @@ public final class NineSaints {
             return false;
         }
 
-        /** To the next token; one that should have a blank ahead and has none is joined. */
-        private void advance() {
-            boolean needsBlank = kind == WORD || kind == NUMBER;
-            if (needsBlank) {
-                told++;
-            }
-            int start = after;
-            while (start < length && (text[start] == 10 || text[start] == 32)) {
-                start++;
-            }
-            int stop = start;
-            own = NONE;
-            if (start >= length) {
-                kind = END;
-            } else if (text[start] >= 'a' && text[start] <= 'z') {
-                kind = WORD;
-                while (stop < length && text[stop] >= 'a' && text[stop] <= 'z') {
-                    stop++;
-                }
-                findOwn(start, stop);
-            } else if (text[start] >= '0' && text[start] <= '9') {
-                kind = NUMBER;
-                while (stop < length && text[stop] >= '0' && text[stop] <= '9') {
-                    stop++;
-                }
-            } else {
-                kind = SIGN;
-                stop++;
-            }
-            joined = needsBlank && start == after && (kind == WORD || kind == NUMBER);
-            at = start;
-            after = stop;
-        }
-
-        private void findOwn(int start, int stop) {
-            for (int word = 0; word <= W_MAX && stop - start < OWN_WIDTH; word++) {
-                int same = 0;
-                int begin = word * OWN_WIDTH;
-                while (same < stop - start && OWN.charAt(begin + same) == text[start + same]) {
-                    same++;
-                }
-                if (same == stop - start && OWN.charAt(begin + same) == ' ') {
-                    own = word;
-                    return;
-                }
-            }
-        }
-
         boolean statement() {
             boolean good;
-            switch (own) {
+            switch (kind) {
                 case W_CORNER:
                     good = tellCorner();
                     break;
@@ -811,7 +827,7 @@ public final class NineSaints {
         }
 
         private boolean word(int wanted) {
-            if (own != wanted || joined) {
+            if (kind != wanted || joined) {
                 return fail(1, at);
             }
             advance();
@@ -849,7 +865,7 @@ public final class NineSaints {
         }
 
         private boolean nameStands() {
-            if (kind != WORD || own != NONE || joined) {
+            if (kind != WORD || joined) {
                 return fail(1, at);
             }
             return after - at <= NAME || fail(1, at + NAME);
@@ -919,12 +935,12 @@ public final class NineSaints {
                 if (andWaits) {
                     emit(AND);
                 }
-                andWaits = own == W_AND && !joined;
+                andWaits = kind == W_AND && !joined;
                 if (!andWaits) {
                     if (orWaits) {
                         emit(OR);
                     }
-                    orWaits = own == W_OR && !joined;
+                    orWaits = kind == W_OR && !joined;
                     if (!orWaits) {
                         return true;
                     }
@@ -935,9 +951,9 @@ public final class NineSaints {
         }
 
         private boolean fact(int open) {
-            if (own == W_NOT) {
-                if (open >= MOST_OPEN) {
-                    return fail(4, at);
+            if (kind == W_NOT) {
+                if (!roomIn(open)) {
+                    return false;
                 }
                 advance();
                 boolean good = fact(open + 1);
@@ -945,9 +961,9 @@ public final class NineSaints {
                 return good;
             }
             if (isSign('[')) {
-                return opens(open, '[') && test(open + 1) && sign(']');
+                return roomIn(open) && sign('[') && test(open + 1) && sign(']');
             }
-            if (own == W_ALL) {
+            if (kind == W_ALL) {
                 emit(1);
                 advance();
                 return true;
@@ -965,8 +981,8 @@ public final class NineSaints {
             return good;
         }
 
-        private boolean opens(int open, int wanted) {
-            return open < MOST_OPEN || !isSign(wanted) ? sign(wanted) : fail(4, at);
+        private boolean roomIn(int open) {
+            return open < MOST_OPEN || fail(4, at);
         }
 
         private boolean sum(int open) {
@@ -996,20 +1012,18 @@ public final class NineSaints {
 
         private boolean part(int open) {
             if (isSign('(')) {
-                return opens(open, '(') && sum(open + 1) && sign(')');
+                return roomIn(open) && sign('(') && sum(open + 1) && sign(')');
             }
-            if (kind == WORD && joined) {
-                return fail(1, at);
-            }
-            if (own >= W_MINUTE && own <= W_SECOND) {
-                emit(ASK_MINUTE - (own - W_MINUTE));
+            if (kind >= W_MINUTE && kind <= W_SECOND) {
+                emit(ASK_MINUTE - (kind - W_MINUTE));
                 advance();
                 return true;
             }
-            if (own == W_MIN || own == W_MAX) {
-                int choice = own == W_MIN ? LEAST : GREATEST;
+            if (kind == W_MIN || kind == W_MAX) {
+                int choice = kind == W_MIN ? LEAST : GREATEST;
                 advance();
-                boolean good = opens(open, '(') && sum(open + 1) && sign(',') && sum(open + 1) && sign(')');
+                boolean opened = isSign('(') ? roomIn(open) && sign('(') : fail(1, at);
+                boolean good = opened && sum(open + 1) && sign(',') && sum(open + 1) && sign(')');
                 emit(choice);
                 return good;
             }
