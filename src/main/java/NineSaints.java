@@ -561,7 +561,7 @@ public final class NineSaints {
     /** Reads a text into a draft of a city, or finds its first fault. */
     private static final class Reader {
         private static final int OWN_WIDTH = 8;
-        // One text of words of like width: a table of texts would have to be made anew by each object.
+        // All own words in one text, each of like width: LANGUAGE.md allows no static row of texts.
         private static final String OWN = "corner  parish  lane    long    walls   saint   at      pace    loud    petals  balcony from    to      worth   but     rain    or      and     not     all     minute  sort    far     first   second  min     max     ";
         private static final int W_CORNER = 0;
         private static final int W_PARISH = 1;

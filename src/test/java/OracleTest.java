@@ -303,6 +303,41 @@ public final class OracleTest {
         return !wrong;
     }
 
+    /** Acts and plans in turns, so that nothing found for ways of before is taken for those of now. */
+    private static boolean planning(long seed) {
+        OracleTest test = new OracleTest(seed);
+        String text = "";
+        do {
+            text = test.towns.join(test.towns.narrow(2 + test.below(3)));
+        } while (text.length() > 1600);
+        test.tell(text);
+        for (int round = 0; round < 120 && !test.wrong && test.calls < 500; round++) {
+            switch (test.below(7)) {
+                case 0:
+                case 1:
+                    test.act();
+                    break;
+                case 2:
+                    test.wander(test.which(2));
+                    break;
+                case 3:
+                    test.lookAtWays();
+                    test.same("clash(0)", test.x.clash(0), test.y.clash(0));
+                    break;
+                default:
+                    test.plan();
+            }
+        }
+        test.same("image", test.x.image(), test.y.image());
+        for (int k = 0; k < 104; k++) {
+            test.same("octet " + k, test.x.octet(k), test.y.octet(k));
+        }
+        if (test.wrong) {
+            test.log.forEach(System.out::println);
+        }
+        return !test.wrong;
+    }
+
     private static boolean faults(long seed) {
         OracleTest test = new OracleTest(seed);
         for (int i = 0; i < 40 && !test.wrong; i++) {
@@ -325,7 +360,11 @@ public final class OracleTest {
         long count = args.length > 1 ? Long.parseLong(args[1]) : 100;
         int bad = 0;
         for (long seed = first; seed < first + count && bad < 3; seed++) {
-            if (!new OracleTest(seed).run(80) || !faults(seed)) {
+            boolean good = new OracleTest(seed).run(80) && faults(seed);
+            for (int i = 0; i < 10 && good; i++) {
+                good = planning(10 * seed + i);
+            }
+            if (!good) {
                 System.out.println("seed " + seed + " went wrong");
                 bad++;
             }

@@ -96,6 +96,12 @@ public final class PromisesTest {
         }
         d.due("70 statements", d.tell(most.toString()), 70);
         d.due("and a blank", d.tell(most + " "), 70);
+        for (int i = 0; i < 3; i++) {
+            d.due("a test of 1600 bytes", d.tell("but 0" + many("+1", 795) + "<5;"), 1);
+            d.due("words", d.x.words(0), 797);
+        }
+        d.fault(many(";", 1600), 1, 0);
+        d.fault(many("1 ", 800), 1, 0);
         d.fault(most + " %", 5, 491);
         d.fault(most + "rain 1;", 5, 490);
     }
@@ -129,6 +135,7 @@ public final class PromisesTest {
         d.fault("corner a parish 1; corner b parish 1; lane a b long 1 walls 10;", 2, 60);
         d.fault("corner a parish 1; corner b parish 1; lane a b long 1 walls 1; lane b a long", 3, 70);
         d.fault("corner a parish 1; saint s at a pace 6 loud 0 petals 0;", 2, 37);
+        d.fault("corner a parish 1; saint s at a pace 0 loud 0 petals 0;", 2, 37);
         d.fault("corner a parish 1; saint s at a pace 5 loud 21 petals 0;", 2, 44);
         d.fault("corner a parish 1; saint s at a pace 5 loud 20 petals 100;", 2, 54);
         d.fault("corner a parish 1; balcony at a from 5 to 4 worth 1;", 2, 42);
@@ -291,14 +298,25 @@ public final class PromisesTest {
         for (int i = 3; i < 24; i++) {
             d.due("step " + i, d.x.go(0, i % 2 == 1 ? 2 : 3), 18 + 8 * (i - 2));
         }
-        d.due("the 25th", d.x.go(0, 2), NONE);
+        d.due("the 25th", d.x.go(0, 3), NONE);
         d.due("24 steps", d.x.saint(0, 4), 24);
+        d.due("ends at c", d.x.saint(0, 6), 2);
+        d.due("where", d.x.where(0, 999), 2);
+        d.due("the last lane", d.x.on(0, d.x.saint(0, 5)), 3);
         d.tell("corner a parish 1; corner b parish 1; lane a b long 9 walls 0; saint s at a pace 5 loud 0 petals 0;");
         for (int i = 1; i <= 22; i++) {
             d.due("long " + i, d.x.go(0, i % 2), 45 * i);
         }
         d.due("1035", d.x.go(0, 1), NONE);
         d.due("rest", d.x.rest(0, 9), 999);
+        d.x.clear(0);
+        d.x.rest(0, 9);
+        for (int i = 1; i <= 22; i++) {
+            d.due("by 999 " + i, d.x.go(0, i % 2), 9 + 45 * i);
+        }
+        d.due("there at 999", d.x.where(0, 999), 0);
+        d.due("ahead of it", d.x.where(0, 998), 1);
+        d.due("petals of none", d.x.petals(0, 999), 0);
     }
 
     private static void rest() {
@@ -372,6 +390,15 @@ public final class PromisesTest {
         }
         d.due("no more", d.x.undo(), false);
         d.due("four stay", d.x.saint(1, 5), 4);
+        for (int i = 0; i < 20; i++) {
+            d.x.rest(1, 1);
+        }
+        d.due("nothing to mend", d.x.mend(), 0);
+        d.due("can't be", d.x.rest(1, 1), NONE);
+        for (int i = 0; i < 20; i++) {
+            d.x.undo();
+        }
+        d.due("what did nothing pushes nothing out", d.x.saint(1, 5), 4);
     }
 
     private static void undoOfPlans(Desk d) {
@@ -498,6 +525,42 @@ public final class PromisesTest {
         d.x.undo();
         d.due("3 goes", d.x.clash(3), 3);
         d.due("those out alone", d.x.clash(2), 1);
+        d.tell("corner a parish 1; corner b parish 1; lane a b long 9 walls 9; saint s at a pace 5 loud 0 petals 9;"
+                + "saint t at b pace 5 loud 8 petals 9; but sort = 1 and far = 0;");
+        for (int i = 1; i <= 20; i++) {
+            d.x.go(0, i % 2);
+            d.x.rest(1, 30);
+        }
+        d.x.but(1);
+        d.due("minute 45", d.x.clash(0), 45);
+        d.x.clear(0);
+        d.x.clear(1);
+        for (int i = 1; i <= 24; i++) {
+            d.x.rest(0, 30);
+            d.x.rest(1, 28);
+        }
+        d.due("go", d.x.go(1, 0), NONE);
+        d.x.undo();
+        d.due("go", d.x.go(1, 0), 689);
+        d.due("late", d.x.clash(0), 689);
+        d.due("first", d.x.meet(0, 1), 689);
+        d.due("drums in the end", d.x.clashes(0), 1);
+    }
+
+    /** Petals: their sort is 1, their sound is 0. */
+    private static void exceptionsOfPetals() {
+        String[][] tests = {{"sort = 1 and far = 0", "1"}, {"far > 0", "0"}, {"minute = 5 or minute = 4", "1"}};
+        for (String[] test : tests) {
+            Desk d = Desk.with(19, STREETS + "saint x at a pace 2 loud 0 petals 5; saint y at c pace 1 loud 0 petals 9;"
+                    + "but sort = 0; but " + test[0] + ";", 12);
+            d.x.go(0, 1);
+            d.x.go(1, 1);
+            d.x.go(1, 0);
+            d.x.but(1);
+            d.due("of petals", d.x.clash(1), 1);
+            d.x.but(3);
+            d.due("clash(0) but " + test[0], d.x.clash(0), test[1].equals("1") ? NONE : 4);
+        }
     }
 
     /** The facts of a clash and what is worked out with them. */
@@ -514,6 +577,7 @@ public final class PromisesTest {
             {"9999 * 100 + 9999 = 999 * 1000 + 1000", "1"}, {"9999 * 9999 - 1 = 9999 * 100 + 99", "1"},
             {"min(far, 1) = 1 and max(far, 3) = 3", "1"}, {"max(min(1, 2), 0) = 1", "1"},
             {"all and not all", "0"}, {"all or all and not all", "1"}, {"[all or all] and not all", "0"},
+            {"not all or [all]", "1"}, {"not all or not [all and [not all]]", "1"}, {"all and [not all or [all]]", "1"},
             {"not all or all", "1"}, {"not [not all or all]", "0"}, {"not 1 = 2 and 3 < 4", "1"},
             {"second - first = 1", "1"}, {"minute * minute = minute", "1"},
         };
@@ -913,6 +977,15 @@ public final class PromisesTest {
         d.x.image();
         d.due("the higher first", d.x.octet(0), 2);
         d.due("the lower", d.x.octet(1), 1);
+        d.tell("corner a parish 1;" + many("saint #q at a pace 1 loud 0 petals 0;", 4));
+        for (int i = 0; i < 96; i++) {
+            d.x.rest(i % 4, 30);
+        }
+        d.due("the longest", d.x.image(), 104);
+        d.due("of the last saint", d.x.octet(99), 130);
+        d.due("sum", d.x.octet(103) != NONE, true);
+        d.due("behind", d.x.octet(104), NONE);
+        d.due("it comes back", d.backWith(NONE, 0), true);
     }
 
     private static void octet() {
@@ -1028,6 +1101,7 @@ public final class PromisesTest {
         passes();
         clash();
         exceptions();
+        exceptionsOfPetals();
         clashes();
         meet();
         pleased();

@@ -83,6 +83,34 @@ final class Towns {
         return told;
     }
 
+    /** A small city in which saints have some routes each and are in one another's way now and then. */
+    List<String> narrow(int saints) {
+        List<String> told = new ArrayList<>();
+        int corners = between(3, 6);
+        int parishes = between(2, 3);
+        for (int i = 0; i < corners; i++) {
+            told.add("corner " + (char) ('p' + i) + " parish " + (i % parishes + 1));
+        }
+        int size = between(1, 4);
+        for (int a = 0; a < corners; a++) {
+            for (int b = a + 1; b < corners; b++) {
+                if (b == a + 1 || below(3) > 0) {
+                    told.add("lane " + (char) ('p' + b) + " " + (char) ('p' + a) + " long " + between(1, size)
+                            + " walls " + between(0, 3));
+                }
+            }
+        }
+        int loudest = below(3);
+        for (int i = 0; i < saints; i++) {
+            told.add("saint s" + (char) ('a' + i) + " at " + (char) ('p' + (below(3) > 0 ? i % corners : below(corners)))
+                    + " pace " + between(1, 3) + " loud " + below(loudest + 1) + " petals " + below(below(2) == 0 ? 3 : 20));
+        }
+        for (int i = below(4); i > 0; i--) {
+            told.add("but " + (below(2) == 0 ? "minute " + SIGNS[below(2)] + " " + below(20) : test(1)));
+        }
+        return told;
+    }
+
     String join(List<String> statements) {
         StringBuilder text = new StringBuilder();
         for (String statement : statements) {
