@@ -1449,48 +1449,80 @@ public final class NineSaints {
     private static final class Custom {
         private static final int SLOTS = Meetings.OF_PETALS + 1;
         private static final int DEEPEST = 64;
-        private static final int KNOWN = 64;
+        private static final int WIDTH = 64;
+        private static final int WORDS = 16;
 
         final City city;
-        final long[] held = new long[PAIRS * SLOTS * MINUTES / 8];
+        // For each pair, slot and row of 64 minutes: a word for each exception, a bit for each minute.
+        final long[] held = new long[PAIRS * SLOTS * WORDS * MOST_EXCEPTIONS];
+        final int[] heldSince = new int[PAIRS * SLOTS * WORDS];
         final int[] stack = new int[DEEPEST];
         final int[] facts = new int[5];
-        boolean stale;
+        int cities = 1;
+        boolean minuteAsked;
 
         Custom(City city) {
             this.city = city;
         }
 
         void forget() {
-            stale = true;
+            cities++;
         }
 
+        /** The exceptions, as bits, that hold for a clash. */
         int holding(int lesser, int greater, int slot, int minute) {
-            if (city.counts[EXCEPTIONS] == 0) {
-                return 0;
+            int first = wordsOf(lesser, greater, slot, minute / WIDTH);
+            int bits = 0;
+            for (int exception = 0; exception < city.counts[EXCEPTIONS]; exception++) {
+                bits |= (int) (held[first + exception] >>> minute % WIDTH & 1) << exception;
             }
-            if (stale) {
-                Arrays.fill(held, 0);
-                stale = false;
+            return bits;
+        }
+
+        /** The first minute of a span in which no exception that is on holds; behind its end if none. */
+        int firstUnexcused(Meetings met, int span, int on) {
+            int from = met.from[span];
+            int to = met.to[span];
+            for (int word = from / WIDTH; word <= to / WIDTH && word < WORDS; word++) {
+                long bare = word == from / WIDTH ? -1L << from % WIDTH : -1L;
+                int first = on == 0 ? 0 : wordsOf(met.lesser, met.greater, met.slot[span], word);
+                for (int exception = 0; exception < MOST_EXCEPTIONS; exception++) {
+                    if ((on >> exception & 1) != 0) {
+                        bare &= ~held[first + exception];
+                    }
+                }
+                if (bare != 0) {
+                    return Math.min(word * WIDTH + Long.numberOfTrailingZeros(bare), to + 1);
+                }
             }
-            int index = (pairOf(lesser, greater) * SLOTS + slot) * MINUTES + minute;
-            int shift = (index & 7) * 8;
-            int found = (int) (held[index >> 3] >>> shift) & 127;
-            if (found != 0) {
-                return found & 63;
+            return to + 1;
+        }
+
+        /** Where the words of a pair, a slot and a row of minutes begin; they are made if they are not yet. */
+        private int wordsOf(int lesser, int greater, int slot, int word) {
+            int place = (pairOf(lesser, greater) * SLOTS + slot) * WORDS + word;
+            if (heldSince[place] == cities) {
+                return place * MOST_EXCEPTIONS;
             }
-            facts[0] = minute;
+            heldSince[place] = cities;
             facts[1] = slot == Meetings.OF_PETALS ? 1 : 0;
             facts[2] = slot == Meetings.OF_PETALS ? 0 : slot;
             facts[3] = lesser;
             facts[4] = greater;
             for (int exception = 0; exception < city.counts[EXCEPTIONS]; exception++) {
-                if (holds(exception)) {
-                    found |= 1 << exception;
+                long bits = 0;
+                minuteAsked = true;
+                for (int i = 0; i < WIDTH && minuteAsked; i++) {
+                    facts[0] = word * WIDTH + i;
+                    minuteAsked = false;
+                    if (holds(exception)) {
+                        // What does not ask for the minute holds in all of them.
+                        bits |= minuteAsked ? 1L << i : -1L;
+                    }
                 }
+                held[place * MOST_EXCEPTIONS + exception] = bits;
             }
-            held[index >> 3] |= (long) (found | KNOWN) << shift;
-            return found;
+            return place * MOST_EXCEPTIONS;
         }
 
         /** Runs an exception's code on the facts; the sums are clamped here, where all results pass. */
@@ -1500,6 +1532,7 @@ public final class NineSaints {
             for (int i = city.codeEnds[exception]; i < end; i++) {
                 int code = city.code[i];
                 if (code >= ASK_SECOND && top < DEEPEST) {
+                    minuteAsked |= code == ASK_MINUTE;
                     stack[top++] = code >= 0 ? code : facts[ASK_MINUTE - code];
                 } else if (code == NOT && top > 0) {
                     stack[top - 1] = 1 - stack[top - 1];
@@ -1545,16 +1578,6 @@ public final class NineSaints {
                 }
             }
             return top > 0 && stack[top - 1] != 0;
-        }
-
-        /** The first minute of a span in which no exception that is on holds; behind its end if none. */
-        int firstUnexcused(Meetings met, int span, int on) {
-            int minute = met.from[span];
-            while (on != 0 && minute <= met.to[span]
-                    && (holding(met.lesser, met.greater, met.slot[span], minute) & on) != 0) {
-                minute++;
-            }
-            return minute;
         }
     }
 
@@ -1888,13 +1911,19 @@ public final class NineSaints {
             long bit = 1L << theirs;
             if ((known[row] & bit) == 0) {
                 known[row] |= bit;
-                int on = ways.onBits();
-                met.most = on == 0 ? 1 : Meetings.SPANS;
-                met.scan(lesser, trackOf(lesser, choice), lateOf(choice),
-                        greater, trackOf(greater, theirs), lateOf(theirs));
+                Track mine = trackOf(lesser, choice);
+                Track other = trackOf(greater, theirs);
                 boolean lawful = true;
-                for (int span = 0; span < met.count && lawful; span++) {
-                    lawful = custom.firstUnexcused(met, span, on) > met.to[span];
+                // The first span alone already tells most of those that are not lawful.
+                for (int most = 1; most <= Meetings.SPANS && lawful; most += Meetings.SPANS - 1) {
+                    met.most = most;
+                    met.scan(lesser, mine, lateOf(choice), greater, other, lateOf(theirs));
+                    for (int span = 0; span < met.count && lawful; span++) {
+                        lawful = custom.firstUnexcused(met, span, ways.onBits()) > met.to[span];
+                    }
+                    if (met.count == 0) {
+                        break;
+                    }
                 }
                 fits[row] |= lawful ? bit : 0;
             }
@@ -2016,12 +2045,17 @@ public final class NineSaints {
         }
 
         private long cheapEnough(int saint, long open, int below) {
-            long cheap = 0;
-            for (int n = 0; n <= 3 * options.found[saint]; n++) {
+            int last = 3 * options.found[saint];
+            if (price(saint, options.ranked[saint * Options.CHOICES + last]) < below) {
+                return open;
+            }
+            long cheap = 1;
+            for (int n = 1; n <= last; n++) {
                 int choice = options.ranked[saint * Options.CHOICES + n];
-                if (price(saint, choice) < below) {
-                    cheap |= 1L << choice;
+                if (price(saint, choice) >= below) {
+                    break;
                 }
+                cheap |= 1L << choice;
             }
             return open & cheap;
         }

@@ -106,7 +106,7 @@ final class Towns {
                     + " pace " + between(1, 3) + " loud " + below(loudest + 1) + " petals " + below(below(2) == 0 ? 3 : 20));
         }
         for (int i = below(4); i > 0; i--) {
-            told.add("but " + (below(2) == 0 ? "minute " + SIGNS[below(2)] + " " + below(20) : test(1)));
+            told.add("but " + (below(2) == 0 ? timed() : test(1)));
         }
         return told;
     }
@@ -222,8 +222,15 @@ final class Towns {
         return kind == 0 ? simple() : sum(depth) + " " + SIGNS[below(3)] + sum(depth);
     }
 
+    /** What holds in some minutes and not in others, late in the night too. */
+    private String timed() {
+        int every = between(2, 90);
+        return below(2) == 0 ? "minute " + SIGNS[below(2)] + " " + below(below(2) == 0 ? 20 : 200)
+                : "minute - minute / " + every + " * " + every + " " + SIGNS[below(2)] + " " + below(every);
+    }
+
     private String simple() {
-        return FACTS[below(5)] + SIGNS[below(3)] + below(below(2) == 0 ? 4 : 30);
+        return below(3) == 0 ? timed() : FACTS[below(5)] + SIGNS[below(3)] + below(below(2) == 0 ? 4 : 30);
     }
 
     private String sum(int depth) {
