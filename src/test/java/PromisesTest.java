@@ -547,6 +547,45 @@ public final class PromisesTest {
         d.due("drums in the end", d.x.clashes(0), 1);
     }
 
+    /** What holds in a minute and a sound says nothing of another minute or sound. */
+    private static void exceptionsByMinute() {
+        Desk d = Desk.with(19, "corner a parish 1; corner b parish 1; lane a b long 1 walls 1;"
+                + "saint s at a pace 1 loud 1 petals 0; saint t at a pace 1 loud 1 petals 0; saint u at a pace 1 loud 1 petals 0;"
+                + "but minute < 64; but minute - minute / 64 * 64 > 0; but minute = 64 or minute = 0; but far = 1;", 10);
+        for (int i = 0; i < 5; i++) {
+            d.x.rest(0, 30);
+            d.x.rest(1, 30);
+        }
+        d.x.but(1);
+        d.due("at 64", d.x.clash(0), 64);
+        d.x.but(2);
+        d.due("at 0", d.x.clash(0), 0);
+        d.x.but(6);
+        d.due("at 128", d.x.clash(0), 128);
+        d.x.but(4);
+        d.due("at 1", d.x.clash(0), 1);
+        d.x.clear(1);
+        d.x.go(1, 1);
+        for (int i = 0; i < 5; i++) {
+            d.x.rest(1, 30);
+        }
+        d.x.but(1);
+        d.due("near, at 64", d.x.clash(0), 64);
+        d.x.but(8);
+        d.due("near ones excepted", d.x.clash(0), 0);
+        d.x.but(12);
+        d.due("all", d.x.clash(0), NONE);
+        d.x.clear(0);
+        d.x.go(2, 1);
+        d.x.rest(2, 30);
+        d.x.rest(2, 30);
+        d.x.rest(2, 30);
+        d.x.but(1);
+        d.due("another pair", d.x.clash(0), 64);
+        d.due("another pair", d.x.clash(3), 2);
+        d.due("softer", d.x.softer(0), 6);
+    }
+
     /** Petals: their sort is 1, their sound is 0. */
     private static void exceptionsOfPetals() {
         String[][] tests = {{"sort = 1 and far = 0", "1"}, {"far > 0", "0"}, {"minute = 5 or minute = 4", "1"}};
@@ -1101,6 +1140,7 @@ public final class PromisesTest {
         passes();
         clash();
         exceptions();
+        exceptionsByMinute();
         exceptionsOfPetals();
         clashes();
         meet();

@@ -573,6 +573,14 @@ final class Oracle {
         return walk(s, ways.get(s));
     }
 
+    private Walk[] all() {
+        Walk[] all = new Walk[saints()];
+        for (int s = 0; s < all.length; s++) {
+            all[s] = own(s);
+        }
+        return all;
+    }
+
     int saint(int s, int what) {
         if (!isSaint(s) || what < 0 || what > 6) {
             return NONE;
@@ -694,12 +702,13 @@ final class Oracle {
     }
 
     int clash(int what) {
+        Walk[] w = all();
         for (int minute = 0; minute < 1000; minute++) {
             for (int sort = 0; sort < 2; sort++) {
                 for (int s = 0; s < saints(); s++) {
                     for (int t = s + 1; t < saints(); t++) {
-                        if (clash(s, own(s), t, own(t), minute, sort, 0xffff)
-                                && !excepted(s, own(s), t, own(t), minute, sort, on)) {
+                        if (clash(s, w[s], t, w[t], minute, sort, 0xffff)
+                                && !excepted(s, w[s], t, w[t], minute, sort, on)) {
                             return what == 0 ? minute : what == 1 ? sort : what == 2 ? s : what == 3 ? t : NONE;
                         }
                     }
@@ -710,6 +719,7 @@ final class Oracle {
     }
 
     int clashes(int sort) {
+        Walk[] w = all();
         if (sort != 0 && sort != 1) {
             return NONE;
         }
@@ -717,7 +727,7 @@ final class Oracle {
         for (int s = 0; s < saints(); s++) {
             for (int t = s + 1; t < saints(); t++) {
                 for (int minute = 0; minute < 1000; minute++) {
-                    sum += clash(s, own(s), t, own(t), minute, sort, 0xffff) ? 1 : 0;
+                    sum += clash(s, w[s], t, w[t], minute, sort, 0xffff) ? 1 : 0;
                 }
             }
         }
@@ -728,9 +738,11 @@ final class Oracle {
         if (!isSaint(first) || !isSaint(second) || first == second) {
             return NONE;
         }
+        Walk a = own(first);
+        Walk b = own(second);
         for (int minute = 0; minute < 1000; minute++) {
             for (int sort = 0; sort < 2; sort++) {
-                if (clash(first, own(first), second, own(second), minute, sort, 0xffff)) {
+                if (clash(first, a, second, b, minute, sort, 0xffff)) {
                     return minute;
                 }
             }
@@ -778,6 +790,7 @@ final class Oracle {
     }
 
     int softer(int what) {
+        Walk[] w = all();
         if (what != 0 && what != 1) {
             return NONE;
         }
@@ -787,7 +800,7 @@ final class Oracle {
             boolean good = true;
             for (int s = 0; s < saints() && good; s++) {
                 for (int t = s + 1; t < saints() && good; t++) {
-                    good = lawfulPair(s, own(s), t, own(t), bits);
+                    good = lawfulPair(s, w[s], t, w[t], bits);
                 }
             }
             int sum = 0;
@@ -813,14 +826,15 @@ final class Oracle {
     }
 
     int sweep(int k) {
+        Walk[] w = all();
         List<Integer> swept = new ArrayList<>();
         for (int lane = 0; lane < town.lanes.size(); lane++) {
             boolean foul = false;
             for (int s = 0; s < saints(); s++) {
                 for (int t = s + 1; t < saints(); t++) {
                     for (int minute = 0; minute < 1000; minute++) {
-                        foul |= clash(s, own(s), t, own(t), minute, 1, 1 << lane)
-                                && !excepted(s, own(s), t, own(t), minute, 1, on);
+                        foul |= clash(s, w[s], t, w[t], minute, 1, 1 << lane)
+                                && !excepted(s, w[s], t, w[t], minute, 1, on);
                     }
                 }
             }
