@@ -3,10 +3,14 @@ final class Desk {
     static int wrong = 0;
 
     final NineSaints x = new NineSaints();
-    private final int promise;
+    private final String about;
 
     Desk(int promise) {
-        this.promise = promise;
+        this("promise " + promise);
+    }
+
+    Desk(String about) {
+        this.about = about;
     }
 
     static Desk with(int promise, String text, int statements) {
@@ -18,7 +22,7 @@ final class Desk {
     void due(String call, int got, int want) {
         if (got != want) {
             wrong++;
-            System.out.println("promise " + promise + ": " + call + " answered " + got + ", due is " + want);
+            System.out.println(about + ": " + call + " answered " + got + ", due is " + want);
         }
     }
 
