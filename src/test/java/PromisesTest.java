@@ -100,6 +100,7 @@ public final class PromisesTest {
             d.due("a test of 1600 bytes", d.tell("but 0" + many("+1", 795) + "<5;"), 1);
             d.due("words", d.x.words(0), 797);
         }
+        d = new Desk(4);
         d.fault(many(";", 1600), 1, 0);
         d.fault(many("1 ", 800), 1, 0);
         d.fault(most + " %", 5, 491);

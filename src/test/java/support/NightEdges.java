@@ -437,6 +437,21 @@ final class NightEdges {
         isFirst(d, 0, 0, 0, 2);
         d.x.but(2);
         isFirst(d, 0, 0, 0, 1);
+        // p and q drum at a sound of 1, p and r at none; in minute 91 q is where p is.
+        d = s.city("corner a parish 1; corner b parish 1; lane a b long 1 walls 1; saint p at a pace 1 loud 1 petals 0;"
+                + "saint q at b pace 1 loud 0 petals 0; saint r at a pace 1 loud 0 petals 0; but far = 1;");
+        for (int i = 0; i < 4; i++) {
+            d.x.rest(0, 30);
+            if (i < 3) {
+                d.x.rest(1, 30);
+            }
+        }
+        d.x.go(1, 0);
+        isFirst(d, 0, 0, 0, 1);
+        d.x.but(1);
+        isFirst(d, 91, 0, 0, 1);
+        d.x.rest(2, 1);
+        isFirst(d, 0, 0, 0, 2);
         // q goes by petals of p in minute 3, p and r drum at d from minute 2 on.
         d = s.city("corner a parish 1; corner b parish 1; corner c parish 1; corner d parish 1; lane a b long 1 walls 9;"
                 + "lane c a long 1 walls 9; lane b d long 1 walls 9; saint p at a pace 1 loud 0 petals 9;"
@@ -1062,6 +1077,10 @@ final class NightEdges {
         d.due("the first lane", d.x.sweep(NONE), 1);
         d.due("the first lane", d.x.sweep(0), 0);
         d.due("without drums", d.x.clashes(0), 0);
+        d = swept(s.city(row.replace("but sort = 0;", "") + "saint u at a pace 1 loud 0 petals 0; but second = 1;"));
+        d.x.rest(2, 1);
+        d.x.but(4);
+        d.due("all of the first pair excepted, none of another one", d.x.sweep(NONE), 0);
         s = new Sentence(27, "SWEPT: how many LANES (k NONE), the k-th by numbers; NONE when there is none such.");
         d = s.city(row);
         d.due("none", d.x.sweep(NONE), 0);

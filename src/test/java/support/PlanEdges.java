@@ -88,6 +88,14 @@ final class PlanEdges {
         d.x.shut(3, false);
         d.due("open again", d.x.routes(0), 1);
         row(d, 0, "acb");
+        StringBuilder nine = new StringBuilder(parishes(9));
+        for (char c = 'a'; c < 'i'; c++) {
+            nine.append("lane ").append(c).append(' ').append((char) (c + 1)).append(" long 1 walls 1;");
+        }
+        d = s.city(nine + saint('s', 'a', 0) + saint('t', 'b', 0));
+        d.due("nine parishes", d.x.routes(0), 1);
+        row(d, 0, "abcdefghi");
+        d.due("not from the second on", d.x.routes(1), 0);
     }
 
     /** From a by ba or bb and ca or cb to da .. de. */
@@ -116,12 +124,18 @@ final class PlanEdges {
         d.due("no more", d.x.route(0, 20, 0), NONE);
     }
 
-    /** Six corners, each a parish of its own, with lanes between all of them. */
-    private static String complete() {
+    /** Corners, each a parish of its own. */
+    private static String parishes(int count) {
         StringBuilder text = new StringBuilder();
-        for (char c = 'a'; c <= 'f'; c++) {
+        for (char c = 'a'; c < 'a' + count; c++) {
             text.append("corner ").append(c).append(" parish ").append(c - 'a' + 1).append(";");
         }
+        return text.toString();
+    }
+
+    /** Six corners, each a parish of its own, with lanes between all of them. */
+    private static String complete() {
+        StringBuilder text = new StringBuilder(parishes(6));
         for (char c = 'a'; c <= 'f'; c++) {
             for (char to = (char) (c + 1); to <= 'f'; to++) {
                 text.append("lane ").append(c).append(' ').append(to).append(" long 1 walls 1;");
@@ -278,6 +292,14 @@ final class PlanEdges {
         d = s.city(text + saint('s', 'a', 0) + saint('t', 'a', 0) + saint('u', 'a', 0));
         d.due("dawn", d.x.dawn(0, 0, 0), 61 * 61 * 61);
         d.due("each clashes with each", d.x.bars(), 3);
+        d = s.city(text + saint('s', 'a', 0) + saint('t', 'a', 0) + saint('u', 'a', 0) + saint('v', 'a', 0));
+        d.due("each clashes with each", d.x.bars(), 7);
+        d.due("the first alone", d.x.lots(3), 6);
+        // 7 and 2, or 2 and 7: the fifth route, not the sixth.
+        d = s.city("corner a parish 1;" + TextEdges.many(6, "corner b# parish 2;") + "corner e parish 1;"
+                + TextEdges.many(4, "lane a b# long 9 walls 9;") + "lane a be long 7 walls 9; lane a bf long 2 walls 9; lane e bf long 2 walls 9;"
+                + saint('s', 'a', 0) + saint('t', 'e', 0));
+        togetherIs(d, 9, 12, 0);
     }
 
     private static void togetherCall() {
@@ -604,6 +626,11 @@ final class PlanEdges {
         d.x.shut(1, true);
         d.due("t has none any more", d.x.lots(0), 2);
         d.due("t has none any more", d.x.lots(1), 0);
+        d = s.city(MERGE.replace("lane b m long 1", "lane b m long 9").replace("lane m n long 1", "lane m n long 9") + saint('s', 'a', 0)
+                + saint('t', 'b', 0));
+        d.due("both at m in 9", d.x.lots(0), 1);
+        d.x.shut(1, true);
+        d.due("t has none any more", d.x.lots(0), 2);
         s = new Sentence(35, "LOTS: in how many orders a SAINT gets as little as alone; NONE when there is none such.");
         d = merge(s, 0, 0);
         int[] none = {2, -1, 4, MAX, MIN};
@@ -643,6 +670,8 @@ final class PlanEdges {
         dawnIs(d, 13, 20, 9, 13, 2);
         dawnIs(d, 9, 20, 3, 9, 6);
         dawnIs(d, 0, 20, 1, 0, 7);
+        dawnIs(d, 12, 0, 0, 0, 0);
+        dawnIs(d, 9, 0, 0, 0, 0);
         d = s.city(MERGE + saint('s', 'a', 99) + saint('t', 'b', 99) + saint('u', 'c', 0));
         dawnIs(d, 11, 20, 36, 11, 0);
         dawnIs(d, 9, 20, 12, 9, 2);
@@ -775,13 +804,13 @@ final class PlanEdges {
         d = s.desk();
         d.due("no saints", backOf(d, 0, 0, 0), true);
         d = s.city(TextEdges.sixteenLanes() + "saint ss at i pace 1 loud 0 petals 0; saint tt at h pace 1 loud 0 petals 0;");
-        d.due("lanes 15, 8 and 0, a way from i, another one from h", backOf(d, 1, 9, 2, 9, 0, 129, 1, 0), true);
+        d.due("lanes 15, 8 and 0, a way from i, another one from h", backOf(d, 1, 0, 2, 9, 0, 129, 1, 0), true);
         int[] shut = {0, 8, 15};
         for (int lane : shut) {
             d.due("shut " + lane, d.x.lane(lane, 4), 1);
         }
         d.due("shut", d.x.has(7), 3);
-        d.due("from i to j", d.x.where(0, 1), 9);
+        d.due("from i to a", d.x.where(0, 1), 0);
         d.due("from h to a", d.x.where(1, 2), 0);
         d.due("all lanes", backOf(d, 0, 0, 255, 255, 0), true);
         d.due("shut", d.x.has(7), 16);
@@ -866,6 +895,10 @@ final class PlanEdges {
         steps[23] = 1;
         d.due("up to 1035", backOf(d, steps), false);
         d.due("END still", d.x.saint(0, 5), 999);
+        d = s.city("corner a parish 1; corner b parish 1; lane a b long 9 walls 0; saint s at a pace 5 loud 0 petals 0;"
+                + "saint t at a pace 1 loud 0 petals 0;");
+        d.due("up to 1035, as if it were of t alone", backOf(d, steps), false);
+        d.due("steps", d.x.saint(1, 4), 0);
     }
 
     private static void backCall() {

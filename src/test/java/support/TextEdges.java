@@ -701,6 +701,14 @@ final class TextEdges {
         d.x.but(2);
         d.due("not excepted", d.x.clash(0), 1);
         d.due("two orders", d.x.lots(0), 2);
+        d = s.desk();
+        for (int sum = 699; sum <= 701; sum++) {
+            d.tell(twins + "but 0" + many(700, "+1") + "=" + sum + ";");
+            d.x.rest(0, 1);
+            d.x.rest(1, 1);
+            d.x.but(1);
+            d.due("excepted by 700 = " + sum, d.x.clash(0), sum == 700 ? NONE : 0);
+        }
     }
 
     private static void faultCall() {
