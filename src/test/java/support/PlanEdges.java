@@ -1,3 +1,5 @@
+import java.util.Arrays;
+
 /** The edges that the document names of plans for all at once, of dawn and of images: promises 28 to 39. */
 final class PlanEdges {
     private static final int NONE = NineSaints.NONE;
@@ -319,8 +321,9 @@ final class PlanEdges {
     private static void bars() {
         Sentence s = new Sentence(31, "BARS: if there is none such, the SAINTS (as bits) without which there is one for all others: the fewest, "
                 + "of like ones the least bits.");
-        merge(s, 11, 11).due("either of two", merge(s, 11, 11).x.bars(), 1);
-        Desk d = s.city(MERGE + "corner z parish 1;" + saint('s', 'a', 0) + saint('t', 'z', 0));
+        Desk d = merge(s, 11, 11);
+        d.due("either of two", d.x.bars(), 1);
+        d = s.city(MERGE + "corner z parish 1;" + saint('s', 'a', 0) + saint('t', 'z', 0));
         d.due("one without routes", d.x.bars(), 2);
         d = s.city(MERGE + saint('s', 'a', 0) + saint('t', 'b', 0));
         d.x.shut(3, true);
@@ -775,7 +778,7 @@ final class PlanEdges {
 
     /** The tape gets bytes and, behind them, the sum that is due. */
     private static boolean backOf(Desk d, int... bytes) {
-        int[] all = java.util.Arrays.copyOf(bytes, bytes.length + 1);
+        int[] all = Arrays.copyOf(bytes, bytes.length + 1);
         int sum = 83;
         for (int octet : bytes) {
             sum = (3 * sum + octet) % 247;
@@ -797,7 +800,7 @@ final class PlanEdges {
         d.due("on", d.x.has(8), 3);
         d = s.city("corner a parish 1;" + saint('s', 'a', 0));
         int[] rests = new int[28];
-        java.util.Arrays.fill(rests, 1, 25, 130);
+        Arrays.fill(rests, 1, 25, 130);
         rests[0] = 24;
         d.due("24 steps", backOf(d, rests), true);
         d.due("END", d.x.saint(0, 5), 720);
@@ -825,7 +828,7 @@ final class PlanEdges {
         int[][] none = {{}, {0}, {0, 0, 0, 0}, {0, 0, 0, 0, 0, 0}, {3, M, N, 0, 0, 0}, {0, 0, 0, 16, 0}, {0, 0, 1, 0, 0}, {0, 0, 128, 0, 0},
             {0, 0, 0, 0, 4}, {0, 0, 0, 0, 255}, {255, 0, 0, 0, 0}, {9, 101, 101, 101, 101}, {0, 1, 101, 0, 0}, {1, 101, 0, 0, 0}};
         for (int[] bytes : none) {
-            d.due("back of " + java.util.Arrays.toString(bytes), backOf(d, bytes), false);
+            d.due("back of " + Arrays.toString(bytes), backOf(d, bytes), false);
         }
         int[] sums = {161, 163, 0, 255};
         for (int sum : sums) {
@@ -858,7 +861,7 @@ final class PlanEdges {
         d.due("lanes shut", d.x.has(7), 0);
         d = s.city("corner a parish 1;" + saint('s', 'a', 0));
         int[] rests = new int[29];
-        java.util.Arrays.fill(rests, 1, 26, 101);
+        Arrays.fill(rests, 1, 26, 101);
         rests[0] = 25;
         d.due("25 steps", backOf(d, rests), false);
     }

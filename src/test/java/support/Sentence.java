@@ -3,6 +3,7 @@ import java.nio.charset.StandardCharsets;
 import java.nio.file.Files;
 import java.nio.file.Path;
 import java.util.ArrayList;
+import java.util.Arrays;
 import java.util.List;
 
 /** A sentence of the document that is tested on its own: what goes wrong is told with its words. */
@@ -64,7 +65,7 @@ final class Sentence {
     private static boolean mark(String paragraph, boolean[] named, String words) {
         int at = paragraph.indexOf(words);
         for (int from = at; from >= 0; from = paragraph.indexOf(words, from + 1)) {
-            java.util.Arrays.fill(named, from, from + words.length(), true);
+            Arrays.fill(named, from, from + words.length(), true);
         }
         return at >= 0;
     }
