@@ -40,33 +40,32 @@ public final class FaceTest {
         return "(" + row + ")";
     }
 
-    private static boolean isHidden(int modifiers, String member) {
-        if (Modifier.isPrivate(modifiers)) {
-            return true;
+    /** Whether a member is public; one that is neither that nor private is wrong by itself. */
+    private static boolean isPublic(int modifiers, String member) {
+        boolean open = Modifier.isPublic(modifiers);
+        if (!open && !Modifier.isPrivate(modifiers)) {
+            bad("neither public nor private is " + member);
         }
-        if (!Modifier.isPublic(modifiers)) {
-            bad("others can see " + member);
-        }
-        return false;
+        return open;
     }
 
-    /** The members of the class that others can see, written as those of the document. */
+    /** The public members of the class, written as those of the document. */
     private static Set<String> seen() throws Exception {
         Set<String> found = new TreeSet<>();
         for (Constructor<?> made : NineSaints.class.getDeclaredConstructors()) {
             String member = "NineSaints" + types(made.getParameterTypes());
-            if (!made.isSynthetic() && !isHidden(made.getModifiers(), member)) {
+            if (!made.isSynthetic() && isPublic(made.getModifiers(), member)) {
                 found.add("public " + member);
             }
         }
         for (Method method : NineSaints.class.getDeclaredMethods()) {
             String member = method.getReturnType().getName() + " " + method.getName() + types(method.getParameterTypes());
-            if (!method.isSynthetic() && !isHidden(method.getModifiers(), member)) {
+            if (!method.isSynthetic() && isPublic(method.getModifiers(), member)) {
                 found.add("public " + (Modifier.isStatic(method.getModifiers()) ? "static " : "") + member);
             }
         }
         for (Field field : NineSaints.class.getDeclaredFields()) {
-            if (!field.isSynthetic() && !isHidden(field.getModifiers(), field.getName())) {
+            if (!field.isSynthetic() && isPublic(field.getModifiers(), field.getName())) {
                 found.add(Modifier.toString(field.getModifiers()) + " " + field.getType().getName() + " "
                         + field.getName() + " = " + field.get(null));
             }
